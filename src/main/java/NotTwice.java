@@ -18,7 +18,7 @@ public final class NotTwice {
     /** A stranger may come where all the people are already. */
     private static final int SEATS = PEOPLE + 1;
 
-    private static final int LIKES_PART = 0, PAYS_PART = 1, TIRES_PART = 2, PARTS = 3;
+    private static final int LIKES_PART = 0, PAYS_PART = 1, TIRES_PART = 2;
 
     private final Shelf shelf;
     private final Texts texts;

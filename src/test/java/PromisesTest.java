@@ -111,6 +111,8 @@ public final class PromisesTest {
         Due.is("3: twins count as one", x.one(0, 4), 6);
         x.twin(2, 4);
         Due.is("3: from now on", x.one(0, 4), 20);
+        x.twin(0, 1);
+        Due.is("3: other twins do not matter", x.one(0, 4), 20);
     }
 
     private static void person() {
@@ -277,6 +279,10 @@ public final class PromisesTest {
         NotTwice blanks = new NotTwice();
         Due.is("10: blanks", Due.read(blanks, "\n likes\n1 ;pays 2\n;  tires(0);\n "), 1);
         Due.is("10: no blanks needed", Due.read(blanks, "likes1or1;pays-1;tires(1);"), 2);
+        Due.is("10: a fault deep inside", Due.read(blanks, "likes ((((("), -111);
+        Due.is("10: does not stay open", Due.read(blanks, "likes (((((1)))));pays -----1;tires 0;"), 3);
+        Due.is("10: nor does its code", Due.read(blanks, "likes 1 + 2 + 3 @"), -116);
+        Due.is("10: as before", Due.read(blanks, "likes 1;pays 1;tires 0;"), 4);
         textFaults();
         textDepth();
         textValues();
@@ -314,6 +320,8 @@ public final class PromisesTest {
         fault("likes ag;", 6);
         fault("likes e;", 6);
         fault("likesworth;", 0);
+        fault("likesz 1;", 0);
+        fault("zlikes 1;", 0);
         fault("likes 12345;", 6);
         fault("likes 00001;", 6);
         fault("likes 1 @", 8);
@@ -441,6 +449,18 @@ public final class PromisesTest {
         Due.is("12: just stories that are", y.may(0), 1);
         Due.rule(y, "likes 1;pays 1;tires many=3;");
         Due.is("12: tired", y.may(0), 0);
+        NotTwice z = withStories(2);
+        z.person(0, 3);
+        z.person(0, 0);
+        z.person(0, 0);
+        z.person(0, 0);
+        z.person(100, 3);
+        z.person(100, 0);
+        z.hears(0, 0, 1);
+        z.hears(1, 0, 1);
+        z.hears(2, 1, 1);
+        Due.is("12: two know the one, one knows the other", z.may(0), 0);
+        Due.is("12: other houses do not matter", z.may(1), 3);
         y.set(0, 2, 1);
         Due.is("12: not tired among fewer", y.may(0), 1);
     }
@@ -490,6 +510,11 @@ public final class PromisesTest {
         x.hears(1, 1, 1);
         x.set(2, 0, 255);
         Due.is("14: heard, own", x.worth(0, 0), 10 + 24);
+        NotTwice y = new NotTwice();
+        y.story(0, 5, 0);
+        y.person(10, 0);
+        y.person(20, 1);
+        Due.is("14: the first hears the second", y.worth(0, 0), 7 - 2);
     }
 
     private static void most() {
@@ -503,6 +528,8 @@ public final class PromisesTest {
         x.person(20, 0);
         Due.is("15: the first of like ones", x.most(0, 0), 1);
         Due.is("15: its worth", x.most(0, 1), 5);
+        Due.is("15: wrong, though there is one", x.most(0, 2), NO);
+        Due.is("15: wrong, though there is one", x.most(0, -1), NO);
         x.hears(1, 1, 1);
         Due.is("15: the next one", x.most(0, 0), 2);
         x.hears(1, 2, 1);
@@ -593,6 +620,10 @@ public final class PromisesTest {
         Due.is("18: by what was told ahead", y.goesOn(0, 1), 7);
         Due.rule(y, "likes 1;pays 1;tires heard=1;");
         Due.is("18: what tires, too", y.goesOn(0, 1), 6);
+        y.person(100, 0);
+        y.person(100, 0);
+        y.may(1);
+        Due.is("18: other houses do not matter", y.goesOn(0, 1), 6);
     }
 
     private static void spread() {
@@ -636,6 +667,24 @@ public final class PromisesTest {
         y.hears(1, 0, 1);
         y.hears(2, 0, 1);
         Due.is("19: two who know it sit apart", y.spread(2, 1) + y.spread(2, 2), 1);
+        NotTwice z = withStories(2);
+        z.person(0, 2);
+        z.person(0, 0);
+        z.person(0, 0);
+        z.person(0, 1);
+        z.hears(0, 0, 1);
+        z.hears(1, 1, 1);
+        z.hears(3, 0, 1);
+        Due.is("19: by what others know", z.spread(2, NONE), 2);
+        int[] apart = {1, 0, 1, 0};
+        for (int p = 0; p < 4; p++) {
+            Due.is("19: by what others know", z.spread(2, p), apart[p]);
+        }
+        z.set(2, 0, 1);
+        z.hears(3, 0, 0);
+        Due.is("19: a teller may know it", z.spread(1, NONE), 1);
+        z.hears(2, 0, 1);
+        Due.is("19: two know it", z.spread(1, NONE), 0);
     }
 
     private static void keepAway() {
@@ -659,6 +708,9 @@ public final class PromisesTest {
         y.person(0, 0);
         Due.rule(y, "likes 1;pays 1;tires many=3;");
         Due.is("20: there is one less to tire by", y.keepAway(0), 2);
+        Due.rule(y, "likes 1;pays 1;tires not age=5;");
+        y.set(1, 1, 5);
+        Due.is("20: by their ages", y.keepAway(0), 2);
     }
 
     private static void send() {
@@ -777,7 +829,7 @@ public final class PromisesTest {
         Due.is("25: above", x.drawn(1, 41), BAD);
         int[] seeds = {0, 1, 2, 7, -1, 123456789, MIN, MAX};
         for (int seed : seeds) {
-            for (int n = 0; n <= 40; n += 5) {
+            for (int n = 0; n <= 40; n++) {
                 Due.is("25: drawn(" + seed + ", " + n + ")", x.drawn(seed, n), drawnForTwo(seed, n));
             }
         }
@@ -849,7 +901,8 @@ public final class PromisesTest {
         passes(x, 2);
         x.image();
         x.force(1);
-        x.hears(1, 0, 0);
+        x.pass();
+        x.hears(1, 0, 1);
         x.hears(1, 1, 1);
         x.hears(0, 1, 1);
         x.set(0, 0, 3);
