@@ -18,7 +18,7 @@ public final class NotTwice {
     /** A stranger may come where all the people are already. */
     private static final int SEATS = PEOPLE + 1;
 
-    private static final int LIKES_PART = 0, PAYS_PART = 1, TIRES_PART = 2;
+    private static final int LIKES_PART = 0, PAYS_PART = 1, TIRES_PART = 2, PARTS = 3;
 
     private final Shelf shelf;
     private final Texts texts;
@@ -169,7 +169,7 @@ public final class NotTwice {
     }
 
     public int by(int house, int story) {
-        return isHouse(house) && shelf.has(story) ? now.tellerOf(house, story) : BAD;
+        return isHouse(house) && shelf.has(story) ? now.byWhom(house, story) : BAD;
     }
 
     public long worth(int house, int story) {
@@ -200,8 +200,17 @@ public final class NotTwice {
         if (!isHouse(house) || !isBelow(what, 2)) {
             return BAD;
         }
-        int set = longestSet(house);
-        return what == 0 ? Integer.bitCount(set) : set;
+        int hopeful = now.unheardIn(house);
+        int longest = 0;
+        // The sets come by their bits, so that of like ones the least is found first.
+        for (int set = 1; set < SETS; set++) {
+            if ((set & ~hopeful) == 0
+                    && Integer.bitCount(set) > Integer.bitCount(longest)
+                    && canTellAll(house, set)) {
+                longest = set;
+            }
+        }
+        return what == 0 ? Integer.bitCount(longest) : longest;
     }
 
     // ---- who should sit where
@@ -307,7 +316,13 @@ public final class NotTwice {
                 z = z * 1103515245 + 12345;
                 thought.house[p] = (z >>> 8) % HOUSES;
             }
-            stories += thought.evening();
+            for (int house = 0; house < HOUSES; house++) {
+                int story = thought.bestOf(house);
+                if (story != NONE) {
+                    thought.spend(house, story);
+                    stories++;
+                }
+            }
             thought.sleep();
         }
         return stories;
@@ -445,20 +460,6 @@ public final class NotTwice {
         int was = row[i];
         row[i] = v;
         return was;
-    }
-
-    /** The sets come by their bits, so that of like ones the least is found first. */
-    private int longestSet(int house) {
-        int hopeful = now.unheardIn(house);
-        int longest = 0;
-        for (int set = 1; set < SETS; set++) {
-            if ((set & ~hopeful) == 0
-                    && Integer.bitCount(set) > Integer.bitCount(longest)
-                    && canTellAll(house, set)) {
-                longest = set;
-            }
-        }
-        return longest;
     }
 
     private boolean canTellAll(int house, int set) {
@@ -608,26 +609,66 @@ public final class NotTwice {
             this.tiresAt = tiresAt;
         }
 
-        private int from(int part) {
-            return part == LIKES_PART ? 0 : part == PAYS_PART ? paysAt : tiresAt;
+        private int value(int part, int[] names, int[] stack) {
+            int from = part == LIKES_PART ? 0 : part == PAYS_PART ? paysAt : tiresAt;
+            int to = part == LIKES_PART ? paysAt : part == PAYS_PART ? tiresAt : code.length;
+            int top = 0;
+            for (int i = from; i < to; i++) {
+                int c = code[i];
+                if (c < Sign.NAMES || c >= Sign.NUMBER) {
+                    if (top < stack.length) {
+                        stack[top] = c < Sign.NAMES ? names[c] : c - Sign.NUMBER;
+                        top++;
+                    }
+                } else if (c == Sign.NOT || c == Sign.NEGATE) {
+                    if (top >= 1) {
+                        int last = stack[top - 1];
+                        stack[top - 1] = c == Sign.NEGATE ? -last : last == 0 ? 1 : 0;
+                    }
+                } else if (top >= 2) {
+                    top--;
+                    stack[top - 1] = joined(c, stack[top - 1], stack[top]);
+                }
+            }
+            return top >= 1 ? stack[0] : 0;
         }
 
-        private int to(int part) {
-            return part == LIKES_PART ? paysAt : part == PAYS_PART ? tiresAt : code.length;
+        private static int joined(int sign, int a, int b) {
+            switch (sign) {
+                case Sign.OR:
+                    return a != 0 || b != 0 ? 1 : 0;
+                case Sign.AND:
+                    return a != 0 && b != 0 ? 1 : 0;
+                case Sign.LESS:
+                    return a < b ? 1 : 0;
+                case Sign.SAME:
+                    return a == b ? 1 : 0;
+                case Sign.PLUS:
+                    return a + b;
+                case Sign.MINUS:
+                    return a - b;
+                default:
+                    return a * b;
+            }
         }
     }
 
-    /** The texts that there are, and what their parts come to. */
+    /** The texts that there are, and the rows that their reckoning needs. */
     private static final class Texts {
         /** Five values may wait on each of six levels (none to five brackets) for one more. */
-        private static final int STACK = 5 * 6 + 2;
+        private static final int STACK = 5 * 6 + 1;
 
         private final Rule[] rules = new Rule[TEXTS];
+        private final int[] names = new int[Sign.NAMES];
         private final int[] stack = new int[STACK];
         private int size;
 
         private boolean has(int text) {
             return isBelow(text, size);
+        }
+
+        private Rule at(int text) {
+            return text >= 0 && text < size ? rules[text] : null;
         }
 
         private boolean isFull() {
@@ -642,82 +683,13 @@ public final class NotTwice {
             size++;
             return size - 1;
         }
-
-        private int value(int text, int part, int[] names) {
-            Rule rule = has(text) ? rules[text] : null;
-            if (rule == null) {
-                return 0;
-            }
-            int top = 0;
-            int to = rule.to(part);
-            for (int i = rule.from(part); i < to; i++) {
-                int c = rule.code[i];
-                if (c >= Sign.NUMBER) {
-                    top = push(top, c - Sign.NUMBER);
-                } else if (c < Sign.NAMES) {
-                    top = push(top, names[c]);
-                } else {
-                    top = reckon(top, c);
-                }
-            }
-            return top > 0 ? stack[0] : 0;
-        }
-
-        private int push(int top, int v) {
-            if (top >= STACK) {
-                return top;
-            }
-            stack[top] = v;
-            return top + 1;
-        }
-
-        private int reckon(int top, int c) {
-            if (top < 1) {
-                return top;
-            }
-            int last = stack[top - 1];
-            if (c == Sign.NOT) {
-                stack[top - 1] = asInt(last == 0);
-                return top;
-            }
-            if (c == Sign.NEGATE) {
-                stack[top - 1] = -last;
-                return top;
-            }
-            if (top < 2) {
-                return top;
-            }
-            stack[top - 2] = joined(c, stack[top - 2], last);
-            return top - 1;
-        }
-
-        private static int joined(int c, int a, int b) {
-            switch (c) {
-                case Sign.OR:
-                    return asInt(a != 0 || b != 0);
-                case Sign.AND:
-                    return asInt(a != 0 && b != 0);
-                case Sign.LESS:
-                    return asInt(a < b);
-                case Sign.SAME:
-                    return asInt(a == b);
-                case Sign.PLUS:
-                    return a + b;
-                case Sign.MINUS:
-                    return a - b;
-                default:
-                    return a * b;
-            }
-        }
-
-        private static int asInt(boolean is) {
-            return is ? 1 : 0;
-        }
     }
 
     /** The tape, and the reading of a text from it. */
     private static final class Reader {
         private static final int DEEPEST = 5, LONGEST_NUMBER = 4;
+        private static final int OR_LEVEL = 0, AND_LEVEL = 1, NOT_LEVEL = 2, SUM_LEVEL = 3;
+        private static final int TERM_LEVEL = 4, ONE_LEVEL = 5;
         private static final String FIRST_TEXT =
                 "likes worth + ( age < 14 ) * 2 ; pays 0 - many ; tires own < 1 ;";
 
@@ -730,8 +702,8 @@ public final class NotTwice {
         /** Each sign on the tape makes one number of code at most. */
         private final int[] code = new int[TAPE];
         private int codeSize;
-        private int paysAt;
-        private int tiresAt;
+        /** Where the code of each part begins. */
+        private final int[] partAt = new int[PARTS];
 
         private int put(int letter) {
             if (size >= TAPE) {
@@ -758,7 +730,7 @@ public final class NotTwice {
         }
 
         private Rule made() {
-            return new Rule(code, codeSize, paysAt, tiresAt);
+            return new Rule(code, codeSize, partAt[PAYS_PART], partAt[TIRES_PART]);
         }
 
         /** Reading stops at the first sign that can't stand where it does. */
@@ -767,109 +739,78 @@ public final class NotTwice {
             open = 0;
             codeSize = 0;
             step();
-            if (!readsPart(Sign.LIKES)) {
-                return false;
+            boolean fine = true;
+            for (int part = 0; part < PARTS && fine; part++) {
+                partAt[part] = codeSize;
+                fine = takes(Sign.LIKES + part) && readsLevel(OR_LEVEL) && takes(Sign.STOP);
             }
-            paysAt = codeSize;
-            if (!readsPart(Sign.PAYS)) {
-                return false;
-            }
-            tiresAt = codeSize;
-            return readsPart(Sign.TIRES) && token == Sign.END;
+            return fine && token == Sign.END;
         }
 
-        private boolean readsPart(int key) {
-            return takes(key) && readsEither() && takes(Sign.STOP);
-        }
-
-        private boolean readsEither() {
-            boolean fine = readsBoth();
-            for (int i = 0; i < TAPE && fine && token == Sign.OR; i++) {
-                step();
-                fine = readsBoth();
-                write(Sign.OR);
+        /** What a level's signs join, or just one such thing; the next level binds more closely. */
+        private boolean readsLevel(int level) {
+            if (level == NOT_LEVEL && token == Sign.NOT) {
+                return readsOpened();
             }
-            return fine;
-        }
-
-        private boolean readsBoth() {
-            boolean fine = readsNot();
-            for (int i = 0; i < TAPE && fine && token == Sign.AND; i++) {
-                step();
-                fine = readsNot();
-                write(Sign.AND);
+            if (level >= ONE_LEVEL) {
+                return token == Sign.MINUS || token == Sign.OPEN ? readsOpened() : readsPlain();
             }
-            return fine;
-        }
-
-        private boolean readsNot() {
-            if (token != Sign.NOT) {
-                return readsCompared();
-            }
-            if (open >= DEEPEST) {
-                return false;
-            }
-            open++;
-            step();
-            boolean fine = readsNot();
-            write(Sign.NOT);
-            open--;
-            return fine;
-        }
-
-        private boolean readsCompared() {
-            boolean fine = readsSum();
-            if (fine && (token == Sign.LESS || token == Sign.SAME)) {
+            boolean fine = readsLevel(level + 1);
+            int most = level == NOT_LEVEL ? 1 : TAPE;
+            for (int i = 0; i < most && fine && levelOf(token) == level; i++) {
                 int sign = token;
                 step();
-                fine = readsSum();
+                fine = readsLevel(level + 1);
                 write(sign);
             }
             return fine;
         }
 
-        private boolean readsSum() {
-            boolean fine = readsTerm();
-            for (int i = 0; i < TAPE && fine && (token == Sign.PLUS || token == Sign.MINUS); i++) {
-                int sign = token;
-                step();
-                fine = readsTerm();
-                write(sign);
+        private static int levelOf(int sign) {
+            switch (sign) {
+                case Sign.OR:
+                    return OR_LEVEL;
+                case Sign.AND:
+                    return AND_LEVEL;
+                case Sign.LESS:
+                case Sign.SAME:
+                    return NOT_LEVEL;
+                case Sign.PLUS:
+                case Sign.MINUS:
+                    return SUM_LEVEL;
+                case Sign.TIMES:
+                    return TERM_LEVEL;
+                default:
+                    return NONE;
             }
-            return fine;
         }
 
-        private boolean readsTerm() {
-            boolean fine = readsOne();
-            for (int i = 0; i < TAPE && fine && token == Sign.TIMES; i++) {
-                step();
-                fine = readsOne();
-                write(Sign.TIMES);
-            }
-            return fine;
-        }
-
-        private boolean readsOne() {
+        /** A bracket, a not or a minus, and what belongs to it; so many may be open at once. */
+        private boolean readsOpened() {
             int sign = token;
-            if (sign < Sign.NAMES || sign >= Sign.NUMBER) {
-                write(sign);
-                step();
-                return true;
-            }
-            if ((sign != Sign.MINUS && sign != Sign.OPEN) || open >= DEEPEST) {
+            if (open >= DEEPEST) {
                 return false;
             }
             open++;
             step();
             boolean fine;
             if (sign == Sign.OPEN) {
-                fine = readsEither() && takes(Sign.CLOSE);
+                fine = readsLevel(OR_LEVEL) && takes(Sign.CLOSE);
             } else {
-                fine = readsOne();
-                write(Sign.NEGATE);
+                fine = readsLevel(sign == Sign.NOT ? NOT_LEVEL : ONE_LEVEL);
+                write(sign == Sign.NOT ? Sign.NOT : Sign.NEGATE);
             }
             open--;
             return fine;
+        }
+
+        private boolean readsPlain() {
+            if (token >= Sign.NAMES && token < Sign.NUMBER) {
+                return false;
+            }
+            write(token);
+            step();
+            return true;
         }
 
         private boolean takes(int wanted) {
@@ -927,26 +868,20 @@ public final class NotTwice {
                 at++;
             }
             int number = 0;
-            int start = 0;
+            int same = 0;
             for (int i = 0; i < Sign.WORDS.length(); i++) {
-                if (Sign.WORDS.charAt(i) == ' ') {
-                    if (i - start == at - tokenAt && isWordAt(start)) {
+                char c = Sign.WORDS.charAt(i);
+                if (c == ' ') {
+                    if (same == at - tokenAt) {
                         return number;
                     }
                     number++;
-                    start = i + 1;
+                    same = 0;
+                } else if (same != NONE) {
+                    same = same < at - tokenAt && tape[tokenAt + same] == c ? same + 1 : NONE;
                 }
             }
             return Sign.WRONG;
-        }
-
-        private boolean isWordAt(int start) {
-            for (int i = tokenAt; i < at; i++) {
-                if (Sign.WORDS.charAt(start + i - tokenAt) != tape[i]) {
-                    return false;
-                }
-            }
-            return true;
         }
     }
 
@@ -968,8 +903,6 @@ public final class NotTwice {
         private final int[] known = new int[SEATS];
         private int knownToOne;
         private int knownToTwo;
-
-        private final int[] names = new int[Sign.NAMES];
 
         private People(Shelf shelf, Texts texts) {
             this.shelf = shelf;
@@ -1057,7 +990,7 @@ public final class NotTwice {
             }
             int left = some & tells[person] & newToOthers(person);
             for (int s = 0; s < shelf.size; s++) {
-                if (((left >> s) & 1) == 1 && isTired(person, s, many)) {
+                if (((left >> s) & 1) == 1 && value(TIRES_PART, person, s, many) != 0) {
                     left &= ~(1 << s);
                 }
             }
@@ -1092,11 +1025,12 @@ public final class NotTwice {
             return bits;
         }
 
-        private int tellerOf(int where, int story) {
+        private int byWhom(int where, int story) {
             lookInto(where);
             return firstTeller(where, story);
         }
 
+        /** In the house looked into: the first by whom a story may be told. */
         private int firstTeller(int where, int story) {
             for (int p = 0; p < size; p++) {
                 if (house[p] == where && tellableOf(p, 1 << story) != 0) {
@@ -1107,7 +1041,8 @@ public final class NotTwice {
         }
 
         private long worthOf(int where, int story) {
-            int teller = tellerOf(where, story);
+            lookInto(where);
+            int teller = firstTeller(where, story);
             return teller == NONE ? NO : worthBy(teller, story);
         }
 
@@ -1138,7 +1073,8 @@ public final class NotTwice {
 
         /** A story is told, if it may be: how many heard it. */
         private int spend(int where, int story) {
-            int teller = tellerOf(where, story);
+            lookInto(where);
+            int teller = firstTeller(where, story);
             if (teller == NONE) {
                 return STATE;
             }
@@ -1148,19 +1084,6 @@ public final class NotTwice {
                 }
             }
             return many - 1;
-        }
-
-        /** In each house its best story is told: in how many there was one. */
-        private int evening() {
-            int stories = 0;
-            for (int where = 0; where < HOUSES; where++) {
-                int story = bestOf(where);
-                if (story != NONE) {
-                    spend(where, story);
-                    stories++;
-                }
-            }
-            return stories;
         }
 
         private void sleep() {
@@ -1175,18 +1098,20 @@ public final class NotTwice {
             }
         }
 
-        private boolean isTired(int person, int story, int company) {
-            return value(TIRES_PART, person, story, company) != 0;
-        }
-
+        /** A part of the rule for one and a story, where so many sit. */
         private int value(int part, int person, int story, int company) {
+            Rule itsRule = texts.at(rule);
+            if (itsRule == null) {
+                return 0;
+            }
+            int[] names = texts.names;
             names[0] = age[person];
             names[1] = shelf.counts(story, age[person]);
             names[2] = Integer.bitCount(heard[person]);
             names[3] = company;
             names[4] = night;
             names[5] = Integer.bitCount(tells[person]);
-            return texts.value(rule, part, names);
+            return itsRule.value(part, names, texts.stack);
         }
 
         private static int bounded(int v, int least) {
@@ -1250,7 +1175,7 @@ public final class NotTwice {
         private int awakeOf(int p, int company) {
             int bits = people.tells[p] & people.shelf.all();
             for (int s = 0; s < people.shelf.size; s++) {
-                if (((bits >> s) & 1) == 1 && people.isTired(p, s, company)) {
+                if (((bits >> s) & 1) == 1 && people.value(TIRES_PART, p, s, company) != 0) {
                     bits &= ~(1 << s);
                 }
             }

@@ -359,6 +359,8 @@ public final class PromisesTest {
         fault("likes -----(7)", 11);
         fault("likes (not (not (- 1)));", 17);
         value("(not (not -1))", 1);
+        value("0or1and0<0+1*(".repeat(5) + "0or1and0<0+1*7" + ")))))", 1);
+        value("0or0and0<0+1*(".repeat(5) + "0or0and0<0+1*7" + ")))))", 0);
         value("- 1 + (((((9)))))", 8);
         value("- 1 * - 1 * - 1 * - 1 * - 1 * - 1", 1);
     }

@@ -36,50 +36,15 @@ public final class RoomTest {
             int b = any();
             int c = any();
             try {
-                ask(random.nextInt(33), a, b, c);
+                Ask.of(x, random.nextInt(Ask.CALLS), a, b, c, any(), any());
+                if (random.nextInt(32) == 0) {
+                    Due.read(x, random.nextInt(20) == 0 ? DEAR : "likes (((((1)))))");
+                }
             } catch (RuntimeException | StackOverflowError e) {
                 Due.holds("a call answers (" + a + ", " + b + ", " + c + "): " + e, false);
             }
         }
         Due.holds("the night has an end", x.count(2) <= 999);
-    }
-
-    private long ask(int which, int a, int b, int c) {
-        switch (which) {
-            case 0: return x.story(a, b, c);
-            case 1: return x.twin(a, b);
-            case 2: return x.person(a, b);
-            case 3: return x.set(a, b, c);
-            case 4: return x.hears(a, b, c);
-            case 5: return x.told(a, b, c);
-            case 6: return x.one(a, b);
-            case 7: return x.feed(a);
-            case 8: return x.text();
-            case 9: return x.force(a);
-            case 10: return x.may(a);
-            case 11: return x.by(a, b);
-            case 12: return x.worth(a, b);
-            case 13: return x.most(a, b);
-            case 14: return x.tell(a, b);
-            case 15: return x.pass();
-            case 16: return x.goesOn(a, b);
-            case 17: return x.spread(a, b);
-            case 18: return x.keepAway(a);
-            case 19: return x.send(a, b);
-            case 20: return x.stranger(a, b, c);
-            case 21: return x.left();
-            case 22: return x.judge(a);
-            case 23: return x.drawn(a, b);
-            case 24: return x.image();
-            case 25: return x.back();
-            case 26: return x.count(a);
-            case 27: return x.sheet(a, b, c);
-            case 28: return x.cell(a, b, c);
-            case 29: return x.copy(a, b, c, any(), any());
-            case 30: return x.people(a, b, c, any());
-            case 31: return x.taken(a, b);
-            default: return Due.read(x, random.nextInt(20) == 0 ? DEAR : "likes (((((1)))))");
-        }
     }
 
     private static void dearest() {
