@@ -281,6 +281,8 @@ public final class PromisesTest {
         Due.is("10: no blanks needed", Due.read(blanks, "likes1or1;pays-1;tires(1);"), 2);
         Due.is("10: a fault deep inside", Due.read(blanks, "likes ((((("), -111);
         Due.is("10: does not stay open", Due.read(blanks, "likes (((((1)))));pays -----1;tires 0;"), 3);
+        Due.is("10: letters stand behind", Due.read(blanks, "likesworthheard"), -100);
+        Due.is("10: the tape was emptied of them", Due.read(blanks, "likes"), -105);
         Due.is("10: nor does its code", Due.read(blanks, "likes 1 + 2 + 3 @"), -116);
         Due.is("10: as before", Due.read(blanks, "likes 1;pays 1;tires 0;"), 4);
         textFaults();
@@ -360,7 +362,8 @@ public final class PromisesTest {
         fault("likes (not (not (- 1)));", 17);
         value("(not (not -1))", 1);
         value("0or1and0<0+1*(".repeat(5) + "0or1and0<0+1*7" + ")))))", 1);
-        value("0or0and0<0+1*(".repeat(5) + "0or0and0<0+1*7" + ")))))", 0);
+        // 31 values wait here at once; its answer is another one if the innermost are lost.
+        value("1or1and1<0+0*(0or3and4<1+3*(1or3and0<4+0*(0or2and1<1+3*(1or3and2<4+1*(1or3and0<0+1*2)))))", 1);
         value("- 1 + (((((9)))))", 8);
         value("- 1 * - 1 * - 1 * - 1 * - 1 * - 1", 1);
     }
