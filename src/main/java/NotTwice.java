@@ -582,7 +582,8 @@ public final class NotTwice {
     /** The signs of a text as numbers; those that reckon stand so in a rule's code, too. */
     private static final class Sign {
         private static final int NAMES = 6;
-        private static final int OR = 6, AND = 7, NOT = 8, LIKES = 9, PAYS = 10, TIRES = 11;
+        /** The keys of the parts stand from LIKES on, in the order of the parts. */
+        private static final int OR = 6, AND = 7, NOT = 8, LIKES = 9;
         private static final int FIRST = 12;
         private static final int OPEN = 12, CLOSE = 13, STOP = 14, PLUS = 15, MINUS = 16;
         private static final int TIMES = 17, LESS = 18, SAME = 19;
