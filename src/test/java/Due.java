@@ -24,6 +24,10 @@ final class Due {
         }
     }
 
+    static int wrong() {
+        return wrong;
+    }
+
     static void feed(NotTwice x, String text) {
         for (int i = 0; i < text.length(); i++) {
             x.feed(text.charAt(i));
