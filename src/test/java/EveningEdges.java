@@ -67,6 +67,40 @@ final class EveningEdges {
 
     @Says(of = 0, words = {"A STORY MAY be told in a HOUSE by one who sits there, TELLS it, and isn't tired of it (tires), if"
         + " others sit there, too, and none of these KNOWS it."})
+    static void someOfFourKnowIt() {
+        for (int know = 0; know < 16; know++) {
+            NotTwice x = Scene.house(1, 1, 1, 1, 1);
+            for (int p = 0; p < 4; p++) {
+                x.hears(p, 0, know >> p & 1);
+            }
+            int many = Integer.bitCount(know);
+            Due.is("known to " + know, x.may(0), many < 2 ? 1 : 0);
+            Due.is("by whom, known to " + know, x.by(0, 0), many == 0 ? 0 : many == 1 ? know / 2 - know / 8 : NONE);
+            Due.is("in one house, known to " + know, x.spread(1, NONE), many < 2 ? 1 : 0);
+            Due.is("in two houses, known to " + know, x.spread(2, NONE), many < 3 ? 2 : many < 4 ? 1 : 0);
+            Due.is("goes on, known to " + know, x.goesOn(0, 1), many < 2 ? 1 : 0);
+        }
+    }
+
+    @Says(of = 0, words = {"A STORY MAY be told in a HOUSE by one who sits there, TELLS it, and isn't tired of it (tires), if"
+        + " others sit there, too, and none of these KNOWS it."})
+    static void whoSitsElsewhereTellsNone() {
+        NotTwice x = Scene.house(2, 0, 0, 2);
+        Scene.sit(x, 1, 1);
+        Scene.sit(x, 2, 1, 1);
+        Due.is("may", x.may(0), 2);
+        Due.is("by", x.by(0, 0), NONE);
+        Due.is("worth", x.worth(0, 0), NO);
+        Due.is("most", x.most(0, 0), 1);
+        Due.is("tell", x.tell(0, 0), STATE);
+        Due.is("may, elsewhere", x.may(2), 1);
+        Due.is("goesOn", x.goesOn(0, 1), 2);
+        x.tell(2, 0);
+        Due.is("who sits elsewhere hears none", x.one(0, 3) + x.one(3, 3), 0);
+    }
+
+    @Says(of = 0, words = {"A STORY MAY be told in a HOUSE by one who sits there, TELLS it, and isn't tired of it (tires), if"
+        + " others sit there, too, and none of these KNOWS it."})
     static void oneOfEightKnowsIt() {
         for (int p = 0; p < 8; p++) {
             NotTwice x = Scene.house(2, 3, 0, 0, 0, 0, 0, 0, 0);
@@ -116,6 +150,11 @@ final class EveningEdges {
         }
         x.set(0, 1, 1);
         Due.is("of nobody", x.worth(0, 0), NO);
+        NotTwice y = Scene.house(1, 0, 0, 0, 0, 0, 0, 0, 1);
+        Due.rule(y, "likes 1+age-40;pays own*50;tires 0;");
+        Due.is("the last tells it", y.worth(0, 0), 57);
+        y.set(1, 0, 49);
+        Due.is("to the first, too", y.worth(0, 0), 66);
     }
 
     @Says(of = 0, words = "TOLD in a HOUSE (BY WHOM it may): all others there have HEARD it since THE NIGHT (also those who had).")
@@ -188,6 +227,9 @@ final class EveningEdges {
         NotTwice none = Scene.house(0, 255, 255);
         Due.is("no stories, how many", none.goesOn(0, 0), 0);
         Due.is("no stories, the set", none.goesOn(0, 1), 0);
+        NotTwice one = Scene.house(1, 1, 0);
+        Due.is("the only story, how many", one.goesOn(0, 0), 1);
+        Due.is("the only story, the set", one.goesOn(0, 1), 1);
         NotTwice all = Scene.house(8, 255, 0);
         Due.is("all, how many", all.goesOn(0, 0), 8);
         Due.is("all, the set", all.goesOn(0, 1), 255);
@@ -322,6 +364,56 @@ final class EveningEdges {
         Due.rule(y, "likes 0;pays 0;tires not many=2;");
         Due.is("tired by how many would sit there", y.spread(1, NONE), 0);
         Due.is("but not among two", y.spread(2, NONE), 1);
+    }
+
+    @Says(of = 0, words = SPREAD)
+    static void spreadWhereNoneIsTired() {
+        for (int many = 2; many < 6; many++) {
+            NotTwice x = Scene.house(8, 128, 128, 128, 128);
+            Due.rule(x, "likes 0;pays 0;tires not many=" + many + ";");
+            Due.is(many + " must sit there, two houses", x.spread(2, NONE), many == 2 ? 2 : many < 5 ? 1 : 0);
+            Due.is(many + " must sit there, one house", x.spread(1, NONE), many == 4 ? 1 : 0);
+            Due.is("one of the two first", x.spread(2, 0), many == 2 || many == 3 ? 1 : 0);
+            Due.rule(x, "likes 0;pays 0;tires many=" + many + ";");
+            Due.is("not " + many + " there, two houses", x.spread(2, NONE), many == 2 ? 1 : 2);
+            Due.is("not " + many + " there, one house", x.spread(1, NONE), many == 4 ? 0 : 1);
+        }
+        NotTwice y = Scene.house(2, 1, 2, 3);
+        y.set(1, 2, 77);
+        Due.rule(y, "likes 0;pays 0;tires age=77 or own=1 and age=40;");
+        Due.is("all are tired", y.spread(1, NONE), 0);
+        y.set(1, 2, 41);
+        Due.is("one is not", y.spread(1, NONE), 1);
+        NotTwice z = new NotTwice();
+        z.story(0, 3, 0);
+        z.story(0, 4, 0);
+        Scene.sit(z, 0, 3, 0);
+        Due.rule(z, "likes 0;pays 0;tires worth=3;");
+        z.hears(1, 1, 1);
+        Due.is("one story tires, one is known", z.spread(2, NONE), 0);
+        z.hears(1, 1, 0);
+        Due.is("one story tires, one is not known", z.spread(2, NONE), 1);
+    }
+
+    @Says(of = 0, words = SPREAD)
+    static void spreadByWaysThatCarry() {
+        NotTwice x = Scene.house(2, 2, 0, 0, 1);
+        x.hears(0, 0, 1);
+        x.hears(1, 1, 1);
+        x.hears(3, 0, 1);
+        int[] due = {1, 0, 1, 0};
+        for (int p = 0; p < 4; p++) {
+            Due.is("0 and 2, 1 and 3", x.spread(2, p), due[p]);
+            Due.is("0 and 2, 1 and 3, of three", x.spread(3, p), due[p]);
+        }
+        NotTwice y = Scene.house(1, 1, 0, 0);
+        y.hears(1, 0, 1);
+        Due.is("0 with 2", y.spread(2, NONE), 1);
+        int[] alone = {0, 1, 0};
+        for (int p = 0; p < 3; p++) {
+            Due.is("0 with 2", y.spread(2, p), alone[p]);
+            Due.is("0 with 2, of four", y.spread(4, p), alone[p]);
+        }
     }
 
     @Says(of = 0, words = {"KEEP AWAY: of those in a HOUSE the one without whom most STORIES MAY be told there; of like ones the"
@@ -622,6 +714,53 @@ final class EveningEdges {
         Due.is("who came since sits there", x.one(7, 0) * 100 + x.one(7, 1), 210);
         Due.is("who came since has heard it", x.one(7, 3), 1);
         Due.is("there is no room more", x.person(0, 0), -4);
+    }
+
+    @Says(of = 0, words = IMAGE)
+    static void anImageOfTheLastOfAll() {
+        NotTwice x = Scene.house(8, 0, 0, 0, 0, 0, 0, 0, 0);
+        for (int p = 0; p < 8; p++) {
+            x.hears(p, 7 - p, 1);
+            x.hears(p, p, 1);
+            x.pass();
+        }
+        x.image();
+        for (int p = 0; p < 8; p++) {
+            x.hears(p, 7 - p, 1);
+            x.hears(p, p, 1);
+        }
+        Scene.nights(x, 30);
+        x.back();
+        Scene.nights(x, 21);
+        for (int p = 0; p < 8; p++) {
+            Due.is(p + " since night " + p, x.one(p, 3), 1 << p | 1 << (7 - p));
+            x.pass();
+            Due.is(p + " not for longer", x.one(p, 3), 0);
+        }
+    }
+
+    @Says(of = 0, words = {"GOES ON:", "SEND:", "KEEP AWAY:", "JUDGED:", "DRAWN by a SEED:"})
+    static void whatIsThoughtOfHasTheirAges() {
+        NotTwice x = Scene.stories(1);
+        x.person(10, 1);
+        x.person(20, 1);
+        x.person(30, 0);
+        for (int tired = 10; tired <= 20; tired += 10) {
+            Due.rule(x, "likes 0;pays 0;tires not age=" + (30 - tired) + ";");
+            int teller = tired == 10 ? 1 : 0;
+            Due.is("goesOn", x.goesOn(0, 0), 1);
+            Due.is("keepAway", x.keepAway(0), 1 - teller);
+            Due.is("send, who is not tired", x.send(teller, 1), 1);
+            Due.is("send, who is tired", x.send(1 - teller, 1), 0);
+            x.sheet(0, 0, 4);
+            Due.is("judge", x.judge(0), 1);
+            Due.is("drawn", x.drawn(tired, 40) > 0 ? 1 : 0, 1);
+        }
+        Due.rule(x, "likes 0;pays 0;tires not age=30;");
+        Due.is("goesOn", x.goesOn(0, 0), 0);
+        Due.is("judge", x.judge(0), 0);
+        Due.is("drawn", x.drawn(1, 40), 0);
+        Due.is("send", x.send(2, 1), 0);
     }
 
     @Says(of = 0, words = IMAGE)

@@ -393,6 +393,27 @@ final class TextEdges {
     }
 
     @Says(of = 0, words = "a ( , a not, a - ahead of a ONE while 5 of these are open")
+    static void noneIsOpenInTheNextText() {
+        NotTwice x = new NotTwice();
+        String[] faults = {"likes (((((@", "likes not not not not not;", "likes -----;", "likes ((not(-;"};
+        for (String text : faults) {
+            Due.is(text, Due.read(x, text), -100 - (text.length() - 1));
+            Due.is("five more", Due.read(x, "likes (((((1)))))" + REST), x.count(3) - 1);
+            Due.is("six are too many", Due.read(x, "likes ((((((1))))))" + REST), -111);
+        }
+    }
+
+    @Says(of = 0, words = "a ( , a not, a - ahead of a ONE while 5 of these are open")
+    static void allWaitsThatCanBe() {
+        String wait = "0or1and0<0+1*";
+        for (int open = 0; open < 6; open++) {
+            for (int innermost = 0; innermost < 2; innermost++) {
+                pays((wait + "(").repeat(open) + wait + innermost + ")".repeat(open), innermost);
+            }
+        }
+    }
+
+    @Says(of = 0, words = "a ( , a not, a - ahead of a ONE while 5 of these are open")
     static void aMinusBehindAOneOpensNone() {
         pays("(((((9-5)))))", 4);
         pays("-----9-5", -14);
