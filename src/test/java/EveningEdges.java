@@ -573,6 +573,39 @@ final class EveningEdges {
         Due.is("is 34", x.stranger(0, 34, 255), 0);
     }
 
+    @Says(of = 0, words = STRANGER)
+    static void aStrangerDoesNotStay() {
+        NotTwice x = Scene.house(8, 1, 0, 0);
+        Scene.sit(x, 1, 6);
+        for (int house = 0; house < 4; house++) {
+            Due.is("comes to house " + house, x.stranger(house, 40, 254), house == 0 ? 7 : house == 1 ? 7 : 0);
+            Due.is("goesOn there", x.goesOn(house, 1), house == 0 ? 1 : 0);
+            Due.is("keepAway there", x.keepAway(house), house == 0 ? 1 : house == 1 ? 3 : NONE);
+            Due.is("send there", x.send(3, 0) * 10 + x.send(3, 1), 2);
+            Scene.row(x, 0, 0, house, 1);
+            Due.is("judge there", x.judge(0), 0);
+            Due.is("may there", x.may(house), house == 0 ? 1 : 0);
+            Due.is("by there", x.by(house, 1), NONE);
+        }
+    }
+
+    @Says(of = 0, words = GOES_ON)
+    static void goesOnWhateverWasAskedAhead() {
+        NotTwice x = Scene.house(3, 7, 0);
+        Scene.sit(x, 1, 0, 0, 0);
+        x.hears(2, 0, 1);
+        x.hears(3, 0, 1);
+        x.hears(4, 1, 1);
+        x.hears(2, 1, 1);
+        for (int house = 3; house >= 0; house--) {
+            x.may(house);
+            x.most(house, 0);
+            Due.is("behind a look at house " + house, x.goesOn(0, 1), 7);
+            Due.is("elsewhere", x.goesOn(1, 1), 0);
+            Due.is("back again", x.goesOn(0, 0), 3);
+        }
+    }
+
     /** The houses of two as they are drawn, by whole numbers without a bound; so many times they meet. */
     private static int meetings(int seed, int n, int stays) {
         long z = seed & 0xFFFFFFFFL;

@@ -1,6 +1,6 @@
 /** The promises one by one: ordinary calls, the edges that the document names, wrong calls. */
 public final class PromisesTest {
-    private static final int MIN = Integer.MIN_VALUE, MAX = Integer.MAX_VALUE;
+    private static final int MIN = Scene.MIN, MAX = Scene.MAX;
     private static final int NONE = -1, BAD = -2, STATE = -3, FULL = -4;
     private static final long NO = NotTwice.NO;
 
@@ -44,21 +44,6 @@ public final class PromisesTest {
         Due.close("PromisesTest");
     }
 
-    /** Some plain stories that all are worth 1. */
-    private static NotTwice withStories(int n) {
-        NotTwice x = new NotTwice();
-        for (int i = 0; i < n; i++) {
-            x.story(0, 1, 0);
-        }
-        return x;
-    }
-
-    private static void passes(NotTwice x, int nights) {
-        for (int i = 0; i < nights; i++) {
-            x.pass();
-        }
-    }
-
     private static void newObject() {
         NotTwice x = new NotTwice();
         Due.is("1: no stories", x.count(0), 0);
@@ -89,7 +74,7 @@ public final class PromisesTest {
     }
 
     private static void twin() {
-        NotTwice x = withStories(5);
+        NotTwice x = Scene.stories(5);
         Due.is("3: none at first", x.told(0, 3, 0), NONE);
         Due.is("3: twin", x.twin(0, 1), 1);
         Due.is("3: again", x.twin(1, 0), 1);
@@ -157,7 +142,7 @@ public final class PromisesTest {
     }
 
     private static void hears() {
-        NotTwice x = withStories(2);
+        NotTwice x = Scene.stories(2);
         x.person(0, 0);
         Due.is("6: had not", x.hears(0, 1, 1), 0);
         Due.is("6: has heard", x.one(0, 3), 2);
@@ -171,9 +156,9 @@ public final class PromisesTest {
         }
         Due.is("6: wrong ones change nothing", x.one(0, 3), 0);
         x.hears(0, 0, 1);
-        passes(x, 20);
+        Scene.nights(x, 20);
         x.hears(0, 0, 1);
-        passes(x, 29);
+        Scene.nights(x, 29);
         Due.is("6: heard again, since then", x.one(0, 3), 1);
         x.pass();
         Due.is("6: and forgotten then", x.one(0, 3), 0);
@@ -213,7 +198,7 @@ public final class PromisesTest {
     }
 
     private static void one() {
-        NotTwice x = withStories(3);
+        NotTwice x = Scene.stories(3);
         x.person(256, 129);
         Due.is("8: house", x.one(0, 0), 2);
         Due.is("8: age", x.one(0, 1), 56);
@@ -428,7 +413,7 @@ public final class PromisesTest {
     }
 
     private static void may() {
-        NotTwice x = withStories(4);
+        NotTwice x = Scene.stories(4);
         x.person(0, 7);
         Due.is("12: others must sit there", x.may(0), 0);
         x.person(0, 8);
@@ -447,14 +432,14 @@ public final class PromisesTest {
         Due.is("12: out of the house", x.may(0), 0);
         Due.is("12: wrong", x.may(4), BAD);
         Due.is("12: wrong", x.may(-1), BAD);
-        NotTwice y = withStories(1);
+        NotTwice y = Scene.stories(1);
         y.person(0, 255);
         y.person(0, 0);
         y.person(0, 0);
         Due.is("12: just stories that are", y.may(0), 1);
         Due.rule(y, "likes 1;pays 1;tires many=3;");
         Due.is("12: tired", y.may(0), 0);
-        NotTwice z = withStories(2);
+        NotTwice z = Scene.stories(2);
         z.person(0, 3);
         z.person(0, 0);
         z.person(0, 0);
@@ -471,7 +456,7 @@ public final class PromisesTest {
     }
 
     private static void by() {
-        NotTwice x = withStories(2);
+        NotTwice x = Scene.stories(2);
         x.person(0, 0);
         x.person(0, 1);
         x.person(0, 3);
@@ -552,7 +537,7 @@ public final class PromisesTest {
     }
 
     private static void tell() {
-        NotTwice x = withStories(2);
+        NotTwice x = Scene.stories(2);
         x.person(0, 1);
         x.person(0, 1);
         x.person(0, 1);
@@ -569,12 +554,12 @@ public final class PromisesTest {
         for (int[] w : wrong) {
             Due.is("16: tell, wrong", x.tell(w[0], w[1]), BAD);
         }
-        NotTwice y = withStories(1);
+        NotTwice y = Scene.stories(1);
         y.person(0, 0);
         y.person(0, 1);
-        passes(y, 7);
+        Scene.nights(y, 7);
         y.tell(0, 0);
-        passes(y, 29);
+        Scene.nights(y, 29);
         Due.is("16: since the night", y.one(0, 3), 1);
         y.pass();
         Due.is("16: since the night", y.one(0, 3), 0);
@@ -602,7 +587,7 @@ public final class PromisesTest {
     }
 
     private static void goesOn() {
-        NotTwice x = withStories(4);
+        NotTwice x = Scene.stories(4);
         x.person(0, 11);
         Due.is("18: alone", x.goesOn(0, 0), 0);
         x.person(0, 0);
@@ -617,7 +602,7 @@ public final class PromisesTest {
         for (int[] w : wrong) {
             Due.is("18: goesOn, wrong", x.goesOn(w[0], w[1]), BAD);
         }
-        NotTwice y = withStories(3);
+        NotTwice y = Scene.stories(3);
         y.person(0, 6);
         y.person(0, 1);
         Due.rule(y, "likes 1;pays 1;tires (own=2) and (heard<1);");
@@ -632,7 +617,7 @@ public final class PromisesTest {
     }
 
     private static void spread() {
-        NotTwice x = withStories(1);
+        NotTwice x = Scene.stories(1);
         Due.is("19: nobody", x.spread(4, NONE), 0);
         Due.is("19: nobody", x.spread(4, 0), BAD);
         x.person(0, 1);
@@ -662,7 +647,7 @@ public final class PromisesTest {
         for (int[] w : wrong) {
             Due.is("19: spread, wrong", x.spread(w[0], w[1]), BAD);
         }
-        NotTwice y = withStories(1);
+        NotTwice y = Scene.stories(1);
         for (int p = 0; p < 4; p++) {
             y.person(0, 1);
         }
@@ -672,7 +657,7 @@ public final class PromisesTest {
         y.hears(1, 0, 1);
         y.hears(2, 0, 1);
         Due.is("19: two who know it sit apart", y.spread(2, 1) + y.spread(2, 2), 1);
-        NotTwice z = withStories(2);
+        NotTwice z = Scene.stories(2);
         z.person(0, 2);
         z.person(0, 0);
         z.person(0, 0);
@@ -693,7 +678,7 @@ public final class PromisesTest {
     }
 
     private static void keepAway() {
-        NotTwice x = withStories(3);
+        NotTwice x = Scene.stories(3);
         Due.is("20: nobody is there", x.keepAway(0), NONE);
         x.person(0, 7);
         Due.is("20: one alone", x.keepAway(0), 0);
@@ -706,7 +691,7 @@ public final class PromisesTest {
         Due.is("20: elsewhere", x.keepAway(1), NONE);
         Due.is("20: wrong", x.keepAway(4), BAD);
         Due.is("20: wrong", x.keepAway(-1), BAD);
-        NotTwice y = withStories(1);
+        NotTwice y = Scene.stories(1);
         y.person(300, 0);
         y.person(0, 1);
         y.person(0, 0);
@@ -719,7 +704,7 @@ public final class PromisesTest {
     }
 
     private static void send() {
-        NotTwice x = withStories(3);
+        NotTwice x = Scene.stories(3);
         x.person(0, 7);
         Due.is("21: nobody anywhere", x.send(0, 0), 0);
         Due.is("21: nobody anywhere", x.send(0, 1), 0);
@@ -743,7 +728,7 @@ public final class PromisesTest {
     }
 
     private static void stranger() {
-        NotTwice x = withStories(3);
+        NotTwice x = Scene.stories(3);
         Due.is("22: to nobody", x.stranger(0, 50, 255), 0);
         x.person(0, 1);
         Due.is("22: brings own ones, and ears", x.stranger(0, 50, 6), 3);
@@ -760,7 +745,7 @@ public final class PromisesTest {
         Due.rule(x, "likes 1;pays 1;tires many=3 and not age=77;");
         Due.is("22: fewer", x.stranger(0, 50, 0), -1);
         Due.is("22: the stranger's age", x.stranger(0, 77, 2), 0);
-        NotTwice y = withStories(1);
+        NotTwice y = Scene.stories(1);
         for (int p = 0; p < 8; p++) {
             y.person(0, 0);
         }
@@ -773,7 +758,7 @@ public final class PromisesTest {
     private static void left() {
         NotTwice x = new NotTwice();
         Due.is("23: nothing", x.left(), 0);
-        x = withStories(4);
+        x = Scene.stories(4);
         Due.is("23: nobody", x.left(), 15);
         x.person(0, 15);
         Due.is("23: to tell is not to know", x.left(), 15);
@@ -786,15 +771,8 @@ public final class PromisesTest {
         Due.is("23: by another", x.left(), 4);
     }
 
-    private static void rows(NotTwice x, int sort, int... row) {
-        x.sheet(0, sort, row.length);
-        for (int i = 0; i < row.length; i++) {
-            x.cell(0, i, row[i]);
-        }
-    }
-
     private static void judge() {
-        NotTwice x = withStories(2);
+        NotTwice x = Scene.stories(2);
         x.person(0, 3);
         x.person(0, 0);
         x.person(300, 1);
@@ -803,28 +781,28 @@ public final class PromisesTest {
         Due.is("24: no such sheet", x.judge(4), BAD);
         Due.is("24: no such sheet", x.judge(-1), BAD);
         for (int sort = 0; sort < 3; sort++) {
-            rows(x, sort);
+            Scene.row(x, 0, sort);
             Due.is("24: no rows", x.judge(0), NONE);
-            rows(x, sort, 0, 0, 3, 0, 0, 1);
+            Scene.row(x, 0, sort, 0, 0, 3, 0, 0, 1);
             Due.is("24: all may", x.judge(0), NONE);
             Due.is("24: none is told by it", x.one(1, 3), 0);
-            rows(x, sort, 0, 0, 3, 0, 0, 0);
+            Scene.row(x, 0, sort, 0, 0, 3, 0, 0, 0);
             Due.is("24: told twice", x.judge(0), 2);
-            rows(x, sort, 0, 0, 4, 0);
+            Scene.row(x, 0, sort, 0, 0, 4, 0);
             Due.is("24: no such house", x.judge(0), 1);
-            rows(x, sort, 0, 0, 0, 1, 0, -1);
+            Scene.row(x, 0, sort, 0, 0, 0, 1, 0, -1);
             Due.is("24: no such story", x.judge(0), 2);
-            rows(x, sort, 0, 2);
+            Scene.row(x, 0, sort, 0, 2);
             Due.is("24: no such story", x.judge(0), 0);
-            rows(x, sort, 3, 1, 4, 4);
+            Scene.row(x, 0, sort, 3, 1, 4, 4);
             Due.is("24: the first", x.judge(0), 0);
-            rows(x, sort, 0, 0, 0);
+            Scene.row(x, 0, sort, 0, 0, 0);
             Due.is("24: odd", x.judge(0), BAD);
         }
     }
 
     private static void drawn() {
-        NotTwice x = withStories(1);
+        NotTwice x = Scene.stories(1);
         Due.is("25: nobody", x.drawn(1, 40), 0);
         x.person(0, 1);
         Due.is("25: alone", x.drawn(1, 40), 0);
@@ -841,7 +819,7 @@ public final class PromisesTest {
         Due.is("25: the night is as it was", x.count(2), 0);
         Due.is("25: nobody has heard it", x.one(1, 3), 0);
         Due.is("25: they sit where they sat", x.one(0, 0) * 10 + x.one(1, 0), 3);
-        NotTwice y = withStories(2);
+        NotTwice y = Scene.stories(2);
         y.person(0, 3);
         y.person(0, 0);
         Due.is("25: two stories at most, in 40 nights of which 30 last", y.drawn(5, 40), drawnOfMost(5, 40));
@@ -884,11 +862,11 @@ public final class PromisesTest {
     }
 
     private static void image() {
-        NotTwice x = withStories(1);
+        NotTwice x = Scene.stories(1);
         Due.is("26: image", x.image(), 0);
-        passes(x, 3);
+        Scene.nights(x, 3);
         Due.is("26: the image of night 0", x.back(), 0);
-        passes(x, 4);
+        Scene.nights(x, 4);
         Due.is("26: another image", x.image(), 4);
         x.pass();
         Due.is("26: the newest one", x.back(), 4);
@@ -896,14 +874,14 @@ public final class PromisesTest {
     }
 
     private static void back() {
-        NotTwice x = withStories(2);
+        NotTwice x = Scene.stories(2);
         x.person(110, 3);
         x.person(120, 0);
         Due.is("27: there is none", x.back(), STATE);
         Due.read(x, "likes 1;pays 1;tires 0;");
-        passes(x, 5);
+        Scene.nights(x, 5);
         x.hears(1, 0, 1);
-        passes(x, 2);
+        Scene.nights(x, 2);
         x.image();
         x.force(1);
         x.pass();
@@ -916,7 +894,7 @@ public final class PromisesTest {
         x.twin(0, 1);
         x.person(245, 9);
         x.hears(2, 1, 1);
-        passes(x, 6);
+        Scene.nights(x, 6);
         Due.is("27: back", x.back(), 7);
         Due.is("27: the night", x.count(2), 7);
         Due.is("27: the rule", x.count(5), 0);
@@ -930,7 +908,7 @@ public final class PromisesTest {
         Due.is("27: who came since stays", x.count(1), 3);
         Due.is("27: in the house", x.one(2, 0), 2);
         Due.is("27: with what was heard", x.one(2, 3), 2);
-        passes(x, 27);
+        Scene.nights(x, 27);
         Due.is("27: heard since when, before", x.one(1, 3), 1);
         x.pass();
         Due.is("27: heard since when", x.one(1, 3), 0);
@@ -939,10 +917,10 @@ public final class PromisesTest {
     }
 
     private static void count() {
-        NotTwice x = withStories(3);
+        NotTwice x = Scene.stories(3);
         x.person(0, 0);
         x.person(0, 0);
-        passes(x, 7);
+        Scene.nights(x, 7);
         Due.read(x, "likes 1;pays 1;tires 0;");
         Due.read(x, "likes 1;pays 1;tires 0;");
         Due.read(x, "likes 1;pays 1;tires 0;");
@@ -957,7 +935,7 @@ public final class PromisesTest {
     }
 
     private static void sheet() {
-        NotTwice x = withStories(1);
+        NotTwice x = Scene.stories(1);
         Due.is("29: no such sheet", x.sheet(4, 0, 1), BAD);
         Due.is("29: no such sheet", x.sheet(-1, -1, 1), BAD);
         Due.is("29: no such sort", x.sheet(0, 3, 1), BAD);
@@ -978,7 +956,7 @@ public final class PromisesTest {
         Due.is("29: missing", x.judge(3), -11);
         x.person(0, 1);
         x.person(0, 0);
-        rows(x, 2, 9, 9);
+        Scene.row(x, 0, 2, 9, 9);
         Due.is("29: none such", x.judge(0), 0);
         x.sheet(0, 2, 2);
         Due.is("29: all 0 again", x.judge(0), NONE);
@@ -994,13 +972,13 @@ public final class PromisesTest {
         Due.is("30: outside", x.cell(0, 4, 0), -12);
         Due.is("30: outside", x.cell(0, MAX, 0), -12);
         Due.is("30: cell", x.cell(0, 3, 5), 1);
-        rows(x, 0, 256 + 42, 512 + 3, 200, 0, -56, 0);
+        Scene.row(x, 0, 0, 256 + 42, 512 + 3, 200, 0, -56, 0);
         Due.is("30: of bytes the lowest 8 bits", x.people(0, 0, 0, 3), 1);
         Due.is("30: of bytes", x.one(0, 1) * 1000 + x.one(0, 2), 42003);
-        rows(x, 1, 65536 * 3 + 343, 65536 + 200, 65535, 0);
+        Scene.row(x, 0, 1, 65536 * 3 + 343, 65536 + 200, 65535, 0);
         Due.is("30: of shorts the lowest 16 bits", x.people(0, 1, 0, 2), 1);
         Due.is("30: of shorts", x.one(1, 0) * 100000 + x.one(1, 1) * 1000 + x.one(1, 2), 343200);
-        rows(x, 2, 65536 * 3 + 343, 65536 + 200, 343, 200);
+        Scene.row(x, 0, 2, 65536 * 3 + 343, 65536 + 200, 343, 200);
         Due.is("30: of ints all bits", x.people(0, 2, 0, 2), 1);
     }
 
@@ -1009,7 +987,7 @@ public final class PromisesTest {
         Due.is("31: no such sheet", x.copy(4, 0, 0, 0, 0), BAD);
         Due.is("31: no such sheet", x.copy(0, 0, -1, 0, 0), BAD);
         Due.is("31: both missing", x.copy(0, 0, 1, 0, 0), -11);
-        rows(x, 2, 1, 2, 3, 4, 5, 6);
+        Scene.row(x, 0, 2, 1, 2, 3, 4, 5, 6);
         Due.is("31: the other missing", x.copy(0, 0, 1, 0, 0), -11);
         Due.is("31: the one missing", x.copy(1, 9, 0, 0, -1), -11);
         x.sheet(1, 1, 6);
@@ -1031,7 +1009,7 @@ public final class PromisesTest {
         Due.is("31: up within one", x.copy(0, 0, 0, 1, 5), 5);
         x.people(0, 2, 0, 3);
         Due.is("31: 1 1 2 3 4 5, as they were", digits(x, 2, 3), 112345);
-        rows(x, 2, 1, 2, 3, 4, 5, 6);
+        Scene.row(x, 0, 2, 1, 2, 3, 4, 5, 6);
         Due.is("31: down within one", x.copy(0, 1, 0, 0, 5), 5);
         x.people(0, 2, 0, 3);
         Due.is("31: 2 3 4 5 6 6, as they were", digits(x, 5, 3), 234566);
@@ -1049,7 +1027,7 @@ public final class PromisesTest {
         NotTwice x = new NotTwice();
         Due.is("32: missing", x.people(0, 0, 0, 0), -11);
         Due.is("32: missing, whatever the place", x.people(0, 2, -5, 8), -11);
-        rows(x, 1, 110, 1, 400, 1, 120, 256, 130, 2, -1, 0, 140, 3);
+        Scene.row(x, 0, 1, 110, 1, 400, 1, 120, 256, 130, 2, -1, 0, 140, 3);
         int[][] wrong = {{4, 1, 0, 1}, {-1, 1, 0, 1}, {0, 3, 0, 1}, {0, -1, 0, 1}, {0, 1, 0, 9}, {0, 1, 0, -1}};
         for (int[] w : wrong) {
             Due.is("32: people, wrong", x.people(w[0], w[1], w[2], w[3]), BAD);
