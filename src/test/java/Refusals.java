@@ -233,6 +233,19 @@ final class Refusals {
     }
 
     @Says(of = 0, words = REFUSALS)
+    static void theFaceHasTheNumbersOfRefusals() {
+        Due.is("BAD", NotTwice.BAD, -2);
+        Due.is("STATE", NotTwice.STATE, -3);
+        Due.is("FULL", NotTwice.FULL, -4);
+        NotTwice x = full();
+        Due.is("a house that is none", x.may(4), NotTwice.BAD);
+        Due.is("no image", x.back(), NotTwice.STATE);
+        Due.is("a ninth story", x.story(0, 0, 0), NotTwice.FULL);
+        Due.is("nobody there", new NotTwice().keepAway(0), NotTwice.NONE);
+        Due.is("no worth", new NotTwice().most(0, 1), NotTwice.NO);
+    }
+
+    @Says(of = 0, words = REFUSALS)
     static void theFirstRefusalIsAnswered() {
         NotTwice x = full();
         Due.is("BAD ahead of FULL", x.story(0, 10, 0), BAD);
