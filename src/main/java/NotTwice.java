@@ -416,12 +416,12 @@ public final class NotTwice {
         if (!sheets.has(sheet) || !isBelow(sort, Sheets.SORTS) || n < 0 || n > PEOPLE) {
             return BAD;
         }
-        // A missing sheet can be taken for one of any sort; it fails only where it is looked into.
-        if (!sheets.isMissing(sheet) && sheets.sort[sheet] != sort) {
-            return UNLIKE;
-        }
+        // A missing sheet is of no sort, so it can't be refused as one of another sort.
         if (sheets.isMissing(sheet)) {
             return MISSING;
+        }
+        if (sheets.sort[sheet] != sort) {
+            return UNLIKE;
         }
         int came = 0;
         for (int k = 0; k < n; k++) {
@@ -1152,6 +1152,7 @@ public final class NotTwice {
             prepare();
             best = NONE;
             int ways = waysOver(h);
+            // A house with a story has two there at least, so that no way can reach beyond this.
             int bound = Math.min(h, people.size / 2);
             for (int way = 0; way < ways && best < bound; way++) {
                 int houses = housesWithStory(h);
